@@ -251,8 +251,8 @@ public final class PaperAger {
     }
 
     public int fewest(int what) {
-        boolean known = what == 0 || within(what, FIRST_PAPER_ASKED, FIRST_PAPER_ASKED + PAPERS - 1);
-        if (!known || archive.claims.anyWentBy(archive.day)) {
+        boolean ofPaper = within(what, FIRST_PAPER_ASKED, FIRST_PAPER_ASKED + PAPERS - 1);
+        if ((what != 0 && !ofPaper) || archive.claims.anyWentBy(archive.day)) {
             return NONE;
         }
         thought.weigh(archive);
@@ -556,15 +556,6 @@ public final class PaperAger {
             return false;
         }
 
-        boolean anyOf(int paper) {
-            for (int i = 0; i < count; i++) {
-                if (papers[i] == paper) {
-                    return true;
-                }
-            }
-            return false;
-        }
-
         void copyFrom(Claims other) {
             System.arraycopy(other.papers, 0, papers, 0, MOST);
             System.arraycopy(other.days, 0, days, 0, MOST);
@@ -779,23 +770,28 @@ public final class PaperAger {
         int firstReader = NONE;
         int firstDay = NONE;
 
+        /** Where nobody need read, it is not asked who may: nobody comes first. */
         void weigh(Archive a) {
             for (int i = 0; i < a.paperCount; i++) {
-                ways[i] = a.claims.anyOf(i) ? waysOf(a, a.papers[i]) : NOBODY;
+                ways[i] = claimsStand(a, a.papers[i]) ? NOBODY : 0;
+                for (int r = 0; r < a.readerCount && ways[i] != NOBODY; r++) {
+                    Paper p = imagine(a, a.papers[i], r, a.day);
+                    if (p != null && claimsStand(a, p)) {
+                        ways[i] |= 1 << r;
+                    }
+                }
             }
         }
 
-        private int waysOf(Archive a, Paper p) {
-            int found = claimsStand(a, p) ? NOBODY : 0;
-            for (int i = 0; i < a.readerCount; i++) {
-                Reader r = a.readers[i];
-                if (r.livesOn(a.day)) {
-                    imagined.copyFrom(p);
-                    imagined.takeReading(i, r.yearsOn(a.day), a.day);
-                    found |= claimsStand(a, imagined) ? 1 << i : 0;
-                }
+        /** The paper as the reader would leave it that day, or null if he does not live then. */
+        private Paper imagine(Archive a, Paper p, int reader, int on) {
+            Reader r = a.readerAt(reader);
+            if (r == null || !r.livesOn(on)) {
+                return null;
             }
-            return found;
+            imagined.copyFrom(p);
+            imagined.takeReading(reader, r.yearsOn(on), on);
+            return imagined;
         }
 
         private boolean claimsStand(Archive a, Paper p) {
@@ -838,28 +834,19 @@ public final class PaperAger {
             return Integer.numberOfTrailingZeros(ways[paper] & set);
         }
 
-        void seekThumbs(Archive a, Paper p, int age) {
+        void seekThumbs(Archive a, Paper paper, int age) {
             thumbCount = 0;
             firstReader = NONE;
             firstDay = NONE;
-            int from = Math.max(p.written, Math.max(0, a.day - THUMB_DAYS));
-            for (int i = 0; i < a.readerCount; i++) {
+            int from = Math.max(paper.written, Math.max(0, a.day - THUMB_DAYS));
+            for (int r = 0; r < a.readerCount; r++) {
                 for (int d = from; d <= a.day; d++) {
-                    if (isThumb(a, p, age, i, d)) {
-                        countThumb(i, d);
+                    Paper p = imagine(a, paper, r, d);
+                    if (p != null && a.ageOf(p, a.day) == age) {
+                        countThumb(r, d);
                     }
                 }
             }
-        }
-
-        private boolean isThumb(Archive a, Paper p, int age, int reader, int on) {
-            Reader r = a.readerAt(reader);
-            if (r == null || !r.livesOn(on)) {
-                return false;
-            }
-            imagined.copyFrom(p);
-            imagined.takeReading(reader, r.yearsOn(on), on);
-            return a.ageOf(imagined, a.day) == age;
         }
 
         private void countThumb(int reader, int on) {
@@ -1065,7 +1052,7 @@ public final class PaperAger {
             return within(kind, LESS, MORE);
         }
 
-        /** How tightly it binds; an open parenthesis binds least, so that it holds what is below. */
+        /** How tightly it binds; an open parenthesis least, so that it keeps back what is below. */
         static int bindingOf(int kind) {
             switch (kind) {
                 case OPEN:
@@ -1088,7 +1075,7 @@ public final class PaperAger {
         }
     }
 
-    /** Lines in which what is worked on stands ahead of its sign, so that a row of ints is enough. */
+    /** Lines in which each sign stands behind what it works on, so that a row of ints is enough. */
     private static final class Law {
         static final int MOST_LINES = 16;
         static final int FIRST_FACT = 10000;
@@ -1132,19 +1119,11 @@ public final class PaperAger {
             }
         }
 
-        void addNumber(int value) {
-            add(value);
-        }
-
         void addFact(int kind) {
             add(FIRST_FACT + kind - Token.THEN);
         }
 
-        void addSign(int kind) {
-            add(-kind);
-        }
-
-        private void add(int item) {
+        void add(int item) {
             if (length < Tape.MOST) {
                 code[length] = item;
                 length++;
@@ -1259,7 +1238,26 @@ public final class PaperAger {
             // A token has a byte at least, and behind them comes the end.
             for (int i = 0; i <= Tape.MOST && !over; i++) {
                 token.advance(tape);
-                takeToken(token.kind);
+                switch (wanted) {
+                    case WANT_LINE:
+                        takeLine(token.kind);
+                        break;
+                    case WANT_UNIT:
+                        takeUnit(token.kind);
+                        break;
+                    case WANT_DIVISOR:
+                        takeDivisor(token.kind);
+                        break;
+                    case WANT_TEST:
+                        takeTest(token.kind);
+                        break;
+                    case WANT_OPERATOR:
+                        takeOperator(token.kind);
+                        break;
+                    default:
+                        takeJoint(token.kind);
+                        break;
+                }
             }
             return fault == 0;
         }
@@ -1281,29 +1279,6 @@ public final class PaperAger {
             over = true;
         }
 
-        private void takeToken(int kind) {
-            switch (wanted) {
-                case WANT_LINE:
-                    takeLine(kind);
-                    break;
-                case WANT_UNIT:
-                    takeUnit(kind);
-                    break;
-                case WANT_DIVISOR:
-                    takeDivisor(kind);
-                    break;
-                case WANT_TEST:
-                    takeTest(kind);
-                    break;
-                case WANT_OPERATOR:
-                    takeOperator(kind);
-                    break;
-                default:
-                    takeJoint(kind);
-                    break;
-            }
-        }
-
         private void takeLine(int kind) {
             if (kind == Token.END) {
                 over = true;
@@ -1321,7 +1296,7 @@ public final class PaperAger {
         private void takeUnit(int kind) {
             wanted = WANT_OPERATOR;
             if (kind == Token.NUMBER) {
-                draft.addNumber(token.value);
+                draft.add(token.value);
             } else if (Token.isFact(kind)) {
                 draft.addFact(kind);
             } else {
@@ -1335,7 +1310,7 @@ public final class PaperAger {
             } else if (token.value == 0) {
                 refuse(PART_BY_ZERO);
             } else {
-                draft.addNumber(token.value);
+                draft.add(token.value);
                 wanted = WANT_OPERATOR;
             }
         }
@@ -1359,8 +1334,12 @@ public final class PaperAger {
                 putBinding(kind);
                 side = IN_RIGHT;
                 wanted = WANT_UNIT;
-            } else if (side == IN_AGE && (kind == Token.WHEN || kind == Token.SEMICOLON)) {
-                takeEndOfAge(kind);
+            } else if (side == IN_AGE && kind == Token.WHEN) {
+                takeEndOfAge();
+                wanted = WANT_TEST;
+            } else if (side == IN_AGE && kind == Token.SEMICOLON) {
+                takeEndOfAge();
+                takeEndOfLine();
             } else if (side == IN_RIGHT) {
                 takeJoint(kind);
             } else {
@@ -1368,13 +1347,9 @@ public final class PaperAger {
             }
         }
 
-        private void takeEndOfAge(int kind) {
+        private void takeEndOfAge() {
             releaseFrom(0);
             draft.endAge();
-            wanted = WANT_TEST;
-            if (kind == Token.SEMICOLON) {
-                takeEndOfLine();
-            }
         }
 
         private void takeEndOfLine() {
@@ -1425,7 +1400,7 @@ public final class PaperAger {
         private void releaseFrom(int binding) {
             while (signCount > 0 && Token.bindingOf(signs[signCount - 1]) >= binding) {
                 signCount--;
-                draft.addSign(signs[signCount]);
+                draft.add(-signs[signCount]);
             }
         }
     }
