@@ -386,6 +386,10 @@ public final class PromiseTest {
         holds(x, false, "not 1 = 1 or 1 > 1");
         holds(x, false, "1 + 1 > 2");
         holds(x, true, "not((not((not(1=2 and 1=1)))))");
+        String deep = "1>1 or 1=1 and(".repeat(8) + "1>1 or 1=1 and 1+1*2=";
+        holds(x, true, deep + "3" + ")".repeat(8));
+        holds(x, false, deep + "4" + ")".repeat(8));
+        counts(x, 198, "1" + "+1".repeat(197));
         facts();
     }
 
