@@ -56,7 +56,8 @@ public final class ArchiveBoundsTest {
         Desk.sentence("24 NEXT: and have no LEASE", ArchiveBoundsTest::nextHasNone);
         Desk.sentence("24 NEXT: that of the most YEARS, of several the least", ArchiveBoundsTest::nextIsOldest);
         Desk.sentence("17 Of a PAPER what 0 .. 7; NONE - 1 if there is none such, or another what", ArchiveBoundsTest::of);
-        Desk.sentence("18 Of a READER what 0 .. 7; NONE - 99999 if there is none such, or another what", ArchiveBoundsTest::who);
+        Desk.sentence("18 Of a READER what 0 .. 7; NONE - 99999 if there is none such, or another what",
+            ArchiveBoundsTest::who);
         Desk.sentence("18 7 how many LEASES", ArchiveBoundsTest::manyLeases);
         Desk.sentence("An object is used for at most 512 calls", ArchiveBoundsTest::lastCall);
         Desk.finish();
@@ -81,7 +82,8 @@ public final class ArchiveBoundsTest {
     }
 
     private static void dayRange() {
-        new Desk().due(0, "look", 0).at(1).at(9998).due(0, "days", 1).due(9999, "look", 0).due(NONE, "days", 1).due(9999, "look", 0);
+        new Desk().due(0, "look", 0).at(1).at(9998).due(0, "days", 1).due(9999, "look", 0).due(NONE, "days", 1)
+            .due(9999, "look", 0);
     }
 
     private static void twelveReaders() {
@@ -109,7 +111,8 @@ public final class ArchiveBoundsTest {
             new Desk().due(NONE, "reader", 0, v, 0, 0).due(0, "look", 1);
         }
         // A death that is told with the reader may be long ago, or ahead of the birth.
-        new Desk().at(50).due(0, "reader", 0, 49, 0, 0).due(0, "who", 0, 5).due(1, "reader", 60, 50, 0, 0).due(50, "who", 1, 1);
+        new Desk().at(50).due(0, "reader", 0, 49, 0, 0).due(0, "who", 0, 5).due(1, "reader", 60, 50, 0, 0)
+            .due(50, "who", 1, 1);
     }
 
     private static void glasses() {
@@ -215,7 +218,8 @@ public final class ArchiveBoundsTest {
         Desk d = new Desk();
         d.call("reader", 0, NONE, 0, 0);
         d.due(0, "who", 0, 4);
-        int[][] tries = {{1, 1, 1}, {-1, 0, 1}, {0, 1, 0}, {9998, 1, 9998}, {9999, 1, 9999}, {10000, 0, 9999}, {LEAST, 0, 9999}, {MOST, 0, 9999}};
+        int[][] tries = {{1, 1, 1}, {-1, 0, 1}, {0, 1, 0}, {9998, 1, 9998}, {9999, 1, 9999}, {10000, 0, 9999}, {LEAST, 0,
+            9999}, {MOST, 0, 9999}};
         for (int[] t : tries) d.due(t[1], "set", 0, 2, t[0]).due(t[2], "who", 0, 4);
         d.due(1, "reader", 0, NONE, 0, 0).due(0, "who", 1, 4);
     }
@@ -250,11 +254,13 @@ public final class ArchiveBoundsTest {
 
     private static void shelves() {
         for (int s : new int[] {0, 1, 2, 3, 4}) {
-            new Desk().due(0, "fire", s).due(NONE, "mean", s).due(0, "paper", s).due(s, "of", 0, 0).due(1, "fire", s).due(0, "mean", s)
+            new Desk().due(0, "fire", s).due(NONE, "mean", s).due(0, "paper", s).due(s, "of", 0, 0).due(1, "fire", s)
+                .due(0, "mean", s)
                 .due(s, "close").due(1, "move", 0, 4 - s).due(4 - s, "of", 0, 0);
         }
         for (int s : new int[] {LEAST, -2, -1, 5, 6, MOST}) {
-            new Desk().due(NONE, "paper", s).due(0, "look", 2).due(NONE, "fire", s).due(NONE, "mean", s).papers(1).due(0, "move", 0, s)
+            new Desk().due(NONE, "paper", s).due(0, "look", 2).due(NONE, "fire", s).due(NONE, "mean", s).papers(1)
+                .due(0, "move", 0, s)
                 .due(1, "of", 0, 0).due(0, "swap", s, 1).due(0, "swap", 1, s).due(1, "of", 0, 0);
         }
     }
@@ -294,7 +300,8 @@ public final class ArchiveBoundsTest {
             }
         }
         // One of them, or both, may be empty.
-        new Desk().papers(3).due(1, "swap", 3, 0).due(0, "of", 0, 0).due(1, "swap", 3, 0).due(3, "of", 0, 0).due(1, "swap", 1, 2)
+        new Desk().papers(3).due(1, "swap", 3, 0).due(0, "of", 0, 0).due(1, "swap", 3, 0).due(3, "of", 0, 0)
+            .due(1, "swap", 1, 2)
             .due(3, "of", 0, 0);
         new Desk().due(1, "swap", 0, 4);
     }
@@ -309,7 +316,8 @@ public final class ArchiveBoundsTest {
     private static void fireCounts() {
         Desk d = new Desk();
         for (int i = 0; i < 11; i++) d.due(i, "fire", 2).papers(2);
-        d.due(11, "fire", 2).papers(2).due(12, "fire", 2).due(0, "fire", 1).due(1, "move", 11, 1).due(11, "fire", 2).due(1, "fire", 1);
+        d.due(11, "fire", 2).papers(2).due(12, "fire", 2).due(0, "fire", 1).due(1, "move", 11, 1).due(11, "fire", 2)
+            .due(1, "fire", 1);
         for (int s : new int[] {LEAST, -1, 5, MOST}) d.due(NONE, "fire", s);
     }
 
@@ -324,7 +332,8 @@ public final class ArchiveBoundsTest {
         d.due(0, "age", 0, 9).due(0, "age", 1, 9).due(20, "age", 2, 9).due(6, "look", 3).due(20, "book", 5, 4);
         d.law("age dust;").due(0, "age", 0, 9).due(1, "age", 0, 10).due(3, "age", 2, 9);
         // It may burn on the day of its reading, and be read again.
-        d.law(0, "").due(20, "read", 0, 0).due(1, "of", 0, 4).due(2, "fire", 3).due(0, "of", 0, 4).due(20, "read", 0, 0).due(1, "of", 0, 4);
+        d.law(0, "").due(20, "read", 0, 0).due(1, "of", 0, 4).due(2, "fire", 3).due(0, "of", 0, 4).due(20, "read", 0, 0)
+            .due(1, "of", 0, 4);
     }
 
     private static void read() {
@@ -344,7 +353,8 @@ public final class ArchiveBoundsTest {
         Desk d = new Desk().papers(0, 1);
         d.call("reader", 5, 8, 0, 0);
         d.call("reader", -365, NONE, 0, 0);
-        int[][] not = {{-1, 1}, {2, 1}, {12, 1}, {LEAST, 1}, {MOST, 1}, {0, -1}, {0, 2}, {0, 12}, {0, LEAST}, {0, MOST}, {0, 0}};
+        int[][] not = {{-1, 1}, {2, 1}, {12, 1}, {LEAST, 1}, {MOST, 1}, {0, -1}, {0, 2}, {0, 12}, {0, LEAST}, {0, MOST}, {0,
+            0}};
         d.at(4);
         for (int[] n : not) d.due(NONE, "read", n).due(0, "look", 3).due(0, "look", 7).due(0, "of", 0, 4).due(0, "of", 1, 4);
         d.at(5).due(0, "read", 0, 0).at(7).due(0, "read", 0, 0).at(8).due(NONE, "read", 0, 0).at(9).due(NONE, "read", 0, 0);
@@ -366,10 +376,12 @@ public final class ArchiveBoundsTest {
         d.call("reader", 0, NONE, 0, 0);
         d.call("lease", 0, 1);
         d.at(4);
-        int[][] not = {{-1, 1}, {2, 1}, {12, 1}, {LEAST, 1}, {MOST, 1}, {-1, NONE}, {2, NONE}, {0, -2}, {0, 2}, {0, 12}, {0, LEAST},
+        int[][] not = {{-1, 1}, {2, 1}, {12, 1}, {LEAST, 1}, {MOST, 1}, {-1, NONE}, {2, NONE}, {0, -2}, {0, 2}, {0, 12}, {0,
+            LEAST},
             {0, MOST}, {0, 0}};
         for (int[] n : not) d.due(0, "lease", n).due(1, "of", 0, 6).due(NONE, "of", 1, 6);
-        d.at(5).due(1, "lease", 1, 0).at(7).due(0, "of", 1, 6).due(1, "lease", 1, 0).at(8).due(0, "lease", 0, 0).due(1, "of", 0, 6);
+        d.at(5).due(1, "lease", 1, 0).at(7).due(0, "of", 1, 6).due(1, "lease", 1, 0).at(8).due(0, "lease", 0, 0)
+            .due(1, "of", 0, 6);
     }
 
     private static void daysRange() {
@@ -384,10 +396,12 @@ public final class ArchiveBoundsTest {
     private static void daysAtTheEnd() {
         // No day of those asked for ends, and nobody draws.
         Desk d = new Desk().at(9600).aged(9, 0);
-        d.due(1, "set", 0, 2, 9999).due(NONE, "days", 400).due(9600, "look", 0).due(0, "look", 5).due(NONE, "who", 0, 1).due(0, "look", 8);
+        d.due(1, "set", 0, 2, 9999).due(NONE, "days", 400).due(9600, "look", 0).due(0, "look", 5).due(NONE, "who", 0, 1)
+            .due(0, "look", 8);
         new Desk().at(9599).due(0, "days", 400).due(9999, "look", 0);
         new Desk().at(9600).due(NONE, "days", 400).due(0, "days", 399).due(9999, "look", 0);
-        new Desk().at(9997).due(NONE, "days", 3).due(9997, "look", 0).due(0, "days", 2).due(NONE, "days", 1).due(NONE, "days", 400);
+        new Desk().at(9997).due(NONE, "days", 3).due(9997, "look", 0).due(0, "days", 2).due(NONE, "days", 1)
+            .due(NONE, "days", 400);
     }
 
     /** The state that becomes this one by a draw. */
@@ -422,8 +436,10 @@ public final class ArchiveBoundsTest {
 
     /** What is drawn: he dies if he is more frail by one, and lives if he is as frail. */
     private static void drawn(int draw, int next) {
-        if (draw > 0) frail(draw, ahead(next)).due(0, "days", 1).due(1, "who", 0, 5).due(NONE, "who", 0, 1).due(0, "look", 8);
-        if (draw < 9999) frail(draw + 1, ahead(next)).due(1, "days", 1).due(0, "who", 0, 5).due(1, "who", 0, 1).due(1, "look", 8);
+        if (draw > 0) frail(draw, ahead(next)).due(0, "days", 1).due(1, "who", 0, 5).due(NONE, "who", 0, 1)
+            .due(0, "look", 8);
+        if (draw < 9999) frail(draw + 1, ahead(next)).due(1, "days", 1).due(0, "who", 0, 5).due(1, "who", 0, 1)
+            .due(1, "look", 8);
     }
 
     private static void drawBits() {
@@ -472,7 +488,8 @@ public final class ArchiveBoundsTest {
     }
 
     private static void onlyTheLivingDraw() {
-        int[][] readers = {{1, NONE, 1}, {2, NONE, 0}, {0, 1, 0}, {0, 2, 1}, {0, 0, 0}, {1, 1, 0}, {1, 2, 1}, {-36500, NONE, 1}};
+        int[][] readers = {{1, NONE, 1}, {2, NONE, 0}, {0, 1, 0}, {0, 2, 1}, {0, 0, 0}, {1, 1, 0}, {1, 2, 1}, {-36500, NONE,
+            1}};
         for (int[] r : readers) {
             Desk d = new Desk();
             d.call("reader", r[0], r[1], 0, 0);
@@ -547,7 +564,8 @@ public final class ArchiveBoundsTest {
         d.due(1, "lease", 0, 0).at(3).due(2, "of", 0, 6);
         // A told death of today leaves the lease until the day ends.
         d = new Desk().papers(0).aged(5, 0).aged(9, 0);
-        d.due(1, "lease", 0, 1).due(1, "set", 1, 0, 0).due(1, "of", 0, 6).due(1, "who", 1, 7).at(1).due(0, "of", 0, 6).due(0, "who", 1, 7);
+        d.due(1, "lease", 0, 1).due(1, "set", 1, 0, 0).due(1, "of", 0, 6).due(1, "who", 1, 7).at(1).due(0, "of", 0, 6)
+            .due(0, "who", 1, 7);
         // Who lives keeps it, and a free one stays free.
         d = new Desk().papers(0, 0).aged(5, 0).aged(9, 0);
         d.due(1, "lease", 0, 0).at(400).due(0, "of", 0, 6).due(NONE, "of", 1, 6);
@@ -610,7 +628,8 @@ public final class ArchiveBoundsTest {
     private static void nextHasNone() {
         Desk d = new Desk().papers(0, 1).aged(3, 0).aged(2, 0);
         d.due(0, "next").due(1, "lease", 0, 0).due(1, "next").due(1, "lease", 1, 1).due(NONE, "next");
-        d.due(1, "lease", 0, NONE).due(0, "next").due(1, "lease", 0, 1).due(0, "next").due(1, "lease", 1, 0).due(NONE, "next");
+        d.due(1, "lease", 0, NONE).due(0, "next").due(1, "lease", 0, 1).due(0, "next").due(1, "lease", 1, 0)
+            .due(NONE, "next");
         // The lease of the last paper counts too.
         d = new Desk().aged(3, 0);
         for (int p = 0; p < 12; p++) d.papers(0);
@@ -619,7 +638,8 @@ public final class ArchiveBoundsTest {
 
     private static void nextIsOldest() {
         Desk d = new Desk();
-        d.due(NONE, "next").aged(0, 0).due(0, "next").aged(0, 0).due(0, "next").aged(1, 0).due(2, "next").aged(1, 0).due(2, "next");
+        d.due(NONE, "next").aged(0, 0).due(0, "next").aged(0, 0).due(0, "next").aged(1, 0).due(2, "next").aged(1, 0)
+            .due(2, "next");
         // Years count, not days; and ten with glasses.
         d.call("reader", -366, NONE, 0, 0);
         d.due(2, "next");
@@ -639,7 +659,8 @@ public final class ArchiveBoundsTest {
         int[][] want = {{4, 0, NONE, 0, 0, 0, NONE, 400}, {2, 3, 0, 20, 1, 3, 0, 400}};
         for (int p = 0; p < 2; p++) for (int what = 0; what <= 7; what++) d.due(want[p][what], "of", p, what);
         for (int what : new int[] {LEAST, -2, -1, 8, 9, MOST}) d.due(NO_PAPER, "of", 0, what).due(NO_PAPER, "of", 1, what);
-        for (int p : new int[] {LEAST, -2, -1, 2, 3, 12, MOST}) for (int what = 0; what <= 7; what++) d.due(NO_PAPER, "of", p, what);
+        for (int p : new int[] {LEAST, -2, -1, 2, 3, 12, MOST}) for (int what = 0; what <= 7; what++) d.due(NO_PAPER, "of",
+            p, what);
     }
 
     private static void who() {
@@ -650,8 +671,10 @@ public final class ArchiveBoundsTest {
         d.call("set", 1, 2, 77);
         int[][] want = {{-7300, NONE, 0, 1, 0, 1, 20, 0}, {9, 99, 1, 3, 77, 0, 10, 0}};
         for (int r = 0; r < 2; r++) for (int what = 0; what <= 7; what++) d.due(want[r][what], "who", r, what);
-        for (int what : new int[] {LEAST, -2, -1, 8, 9, MOST}) d.due(NO_READER, "who", 0, what).due(NO_READER, "who", 1, what);
-        for (int r : new int[] {LEAST, -2, -1, 2, 3, 12, MOST}) for (int what = 0; what <= 7; what++) d.due(NO_READER, "who", r, what);
+        for (int what : new int[] {LEAST, -2, -1, 8, 9, MOST}) d.due(NO_READER, "who", 0, what)
+            .due(NO_READER, "who", 1, what);
+        for (int r : new int[] {LEAST, -2, -1, 2, 3, 12, MOST}) for (int what = 0; what <= 7; what++) d.due(NO_READER,
+            "who", r, what);
     }
 
     private static void manyLeases() {

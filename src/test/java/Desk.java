@@ -31,7 +31,8 @@ final class Desk {
     }
 
     static void finish() {
-        System.out.println(wrong == 0 ? sentences + " sentences hold, by " + checks + " answers" : wrong + " answers are not as due");
+        System.out.println(wrong == 0 ? sentences + " sentences hold, by " + checks + " answers" : wrong
+            + " answers are not as due");
         if (wrong != 0) System.exit(1);
     }
 

@@ -17,7 +17,8 @@ public final class ReturnBoundsTest {
         Desk.sentence("27 what is refused or asked is neither told nor done", ReturnBoundsTest::refusedForgetsNothing);
         Desk.sentence("28 false if there is none", ReturnBoundsTest::noImage);
         Desk.sentence("28 all that is and was told, as it was when it was taken", ReturnBoundsTest::allGoesBack);
-        Desk.sentence("28 all that is: lines of THE BOOK that were undone and written anew since", ReturnBoundsTest::bookGoesBack);
+        Desk.sentence("28 all that is: lines of THE BOOK that were undone and written anew since",
+            ReturnBoundsTest::bookGoesBack);
         Desk.sentence("28 but the TAPE, fault()", ReturnBoundsTest::tapeAndFaultStay);
         Desk.sentence("28 and what can be undone (nothing then)", ReturnBoundsTest::nothingUndoneThen);
         Desk.sentence("28 gone back to it may be more than once", ReturnBoundsTest::moreThanOnce);
@@ -34,7 +35,8 @@ public final class ReturnBoundsTest {
             Desk d = new Desk().papers(0).aged(9, 0);
             for (int i = 0; i < n; i++) d.due(Math.min(10, i), "look", 7).due(9, "read", 0, 0);
             int kept = Math.min(10, n);
-            for (int i = 0; i < kept; i++) d.due(kept - i, "look", 7).due(n - i, "of", 0, 4).due(n - i, "look", 3).due(1, "undo");
+            for (int i = 0; i < kept; i++) d.due(kept - i, "look", 7).due(n - i, "of", 0, 4).due(n - i, "look", 3)
+                .due(1, "undo");
             d.due(0, "look", 7).due(0, "undo").due(n - kept, "of", 0, 4).due(n - kept, "look", 3);
         }
         // Undone ones make room: ten of them may be gone back again.
@@ -57,22 +59,26 @@ public final class ReturnBoundsTest {
     private static void latestGoesBack() {
         Desk d = new Desk().papers(3, 4).aged(20, 0).aged(30, 1).at(2).due(20, "read", 0, 0).at(4);
         d.due(1, "lease", 0, 1).due(30, "read", 0, 1).due(20, "read", 1, 0).due(30, "read", 1, 1).due(20, "read", 0, 0);
-        int[][][] want = {{{0, 20, 3, 4}, {1, 30, 2, 4}}, {{1, 30, 2, 4}, {1, 30, 2, 4}}, {{1, 30, 2, 4}, {0, 20, 1, 4}}, {{1, 30, 2, 4}, {NONE, 0, 0, 0}}, {{0, 20, 1, 2}, {NONE, 0, 0, 0}}};
+        int[][][] want = {{{0, 20, 3, 4}, {1, 30, 2, 4}}, {{1, 30, 2, 4}, {1, 30, 2, 4}}, {{1, 30, 2, 4}, {0, 20, 1, 4}},
+            {{1, 30, 2, 4}, {NONE, 0, 0, 0}}, {{0, 20, 1, 2}, {NONE, 0, 0, 0}}};
         for (int step = 0; step < 5; step++) {
             if (step > 0) d.due(1, "undo");
-            d.due(5 - step, "look", 3).due(4 - step, "look", 7).due(NONE, "book", 5 - step, 0).due(3, "of", 0, 0).due(4, "of", 1, 0).due(1, "of", 0, 6);
+            d.due(5 - step, "look", 3).due(4 - step, "look", 7).due(NONE, "book", 5 - step, 0).due(3, "of", 0, 0)
+                .due(4, "of", 1, 0).due(1, "of", 0, 6);
             for (int p = 0; p < 2; p++) for (int what = 0; what < 4; what++) d.due(want[step][p][what], "of", p, what + 2);
         }
         // The day's end had forgotten the first of them.
         d.due(0, "undo").due(1, "look", 3);
         // The line that comes next stands where the undone one stood.
-        d.due(30, "read", 1, 1).due(2, "look", 3).due(1, "book", 1, 0).due(1, "book", 1, 1).due(0, "book", 1, 3).due(30, "book", 1, 4);
+        d.due(30, "read", 1, 1).due(2, "look", 3).due(1, "book", 1, 0).due(1, "book", 1, 1).due(0, "book", 1, 3)
+            .due(30, "book", 1, 4);
         d.due(1, "undo").due(0, "leaps", 1, 0, 0).due(1, "leaps", 0, 0, 0);
     }
 
     private static void nothingToUndo() {
         Desk d = new Desk();
-        d.due(0, "undo").papers(0).aged(9, 0).due(0, "undo").due(9, "read", 0, 0).due(1, "undo").due(0, "undo").due(0, "undo").due(0, "look", 7);
+        d.due(0, "undo").papers(0).aged(9, 0).due(0, "undo").due(9, "read", 0, 0).due(1, "undo").due(0, "undo")
+            .due(0, "undo").due(0, "look", 7);
         d.due(9, "read", 0, 0).due(1, "look", 7).due(1, "undo").due(0, "of", 0, 4).due(0, "look", 3);
     }
 
@@ -80,7 +86,8 @@ public final class ReturnBoundsTest {
         for (int over : new int[] {0, 1, 5, 9, 10, 11}) {
             Desk d = new Desk().papers(0).aged(9, 0);
             for (int i = 0; i < 120 + over; i++) d.due(9, "read", 0, 0);
-            for (int i = 1; i <= 10; i++) d.due(1, "undo").due(Math.min(120, 120 + over - i), "look", 3).due(120 + over - i, "of", 0, 4);
+            for (int i = 1; i <= 10; i++) d.due(1, "undo").due(Math.min(120, 120 + over - i), "look", 3)
+                .due(120 + over - i, "of", 0, 4);
             d.due(0, "undo");
             // The book goes on from there.
             int lines = Math.min(120, 110 + over);
@@ -90,7 +97,8 @@ public final class ReturnBoundsTest {
 
     /** Two readings that can be undone, with an image from before, and something of all else. */
     private static Desk busy() {
-        Desk d = new Desk().papers(0, 1, 1).aged(20, 0).aged(30, 2).law(2, "age then + dust when paper = 0; age then + read;");
+        Desk d = new Desk().papers(0, 1, 1).aged(20, 0).aged(30, 2)
+            .law(2, "age then + dust when paper = 0; age then + read;");
         d.call("reader", 50, NONE, 1, 3);
         d.call("reader", -99, 3, 1, 3);
         d.call("set", 0, 2, 1);
@@ -101,12 +109,15 @@ public final class ReturnBoundsTest {
         d.call("claim", 1, 9000, 21, 21);
         d.at(5).fault(2, 6, "age 1/0;");
         d.call("state", 1234);
-        d.due(32, "read", 2, 1).due(20, "read", 0, 0).due(20, "feed", 0x61676520, 0x373B2020, 0x20202020, 0x20202020, 0x20202020);
+        d.due(32, "read", 2, 1).due(20, "read", 0, 0)
+            .due(20, "feed", 0x61676520, 0x373B2020, 0x20202020, 0x20202020, 0x20202020);
         return d.due(2, "look", 7);
     }
 
-    private static final String[] DONE = {"days 1", "days 400", "reader 0 -1 0 0", "reader 0 5 1 3", "set 0 0 -1", "set 0 0 9", "set 0 1 0", "set 0 1 1", "set 0 2 1",
-        "set 0 2 9999", "paper 0", "paper 4", "move 0 0", "move 1 4", "swap 0 1", "swap 3 4", "fire 0", "fire 4", "lease 0 -1", "lease 0 0", "lease 1 1", "image 0"};
+    private static final String[] DONE = {"days 1", "days 400", "reader 0 -1 0 0", "reader 0 5 1 3", "set 0 0 -1",
+        "set 0 0 9", "set 0 1 0", "set 0 1 1", "set 0 2 1",
+        "set 0 2 9999", "paper 0", "paper 4", "move 0 0", "move 1 4", "swap 0 1", "swap 3 4", "fire 0", "fire 4",
+            "lease 0 -1", "lease 0 0", "lease 1 1", "image 0"};
 
     private static int[] numbers(String call) {
         String[] w = call.split(" ");
@@ -140,21 +151,30 @@ public final class ReturnBoundsTest {
             d.due(2, "look", 7).due(1, "undo").due(1, "undo").due(0, "undo").due(0, "of", 0, 4).due(1, "of", 2, 4);
         }
         // A text that is faulty, and one that is the law.
-        Desk d = busy().fault(1, 0, "x").due(2, "look", 7).law("age 7;").due(2, "look", 7).law(0, "").due(2, "look", 7).due(1, "undo").due(1, "undo").due(1, "look", 3);
+        Desk d = busy().fault(1, 0, "x").due(2, "look", 7).law("age 7;").due(2, "look", 7).law(0, "").due(2, "look", 7)
+            .due(1, "undo").due(1, "undo").due(1, "look", 3);
         d.due(0, "look", 6);
         // Undoing itself forgets nothing of what is left.
         busy().due(1, "undo").due(1, "look", 7).due(1, "undo").due(0, "look", 7);
     }
 
-    private static final String[] REFUSED = {"reader -36501 -1 0 0", "reader 10000 -1 0 0", "reader 0 -2 0 0", "reader 0 10000 0 0", "reader 0 -1 -1 0", "reader 0 -1 2 0",
-        "reader 0 -1 0 -1", "reader 0 -1 0 4", "set -1 0 -1", "set 4 0 -1", "set 0 -1 0", "set 0 3 0", "set 0 0 -2", "set 0 0 4", "set 0 0 10000", "set 0 1 -1", "set 0 1 2",
-        "set 0 2 -1", "set 0 2 10000", "paper -1", "paper 5", "move -1 0", "move 3 0", "move 0 -1", "move 0 5", "swap 0 0", "swap 1 1", "swap -1 0", "swap 0 -1", "swap 5 0", "swap 0 5",
-        "fire -1", "fire 5", "read -1 0", "read 3 0", "read 0 -1", "read 0 4", "read 0 2", "read 0 3", "lease -1 0", "lease 3 0", "lease -1 -1", "lease 3 -1", "lease 0 -2",
-        "lease 0 4", "lease 0 2", "lease 0 3", "days 0", "days -1", "days 401", "end -1", "end 21", "claim -1 9 0 0", "claim 3 9 0 0", "claim 0 4 0 0", "claim 0 10000 0 0",
+    private static final String[] REFUSED = {"reader -36501 -1 0 0", "reader 10000 -1 0 0", "reader 0 -2 0 0",
+        "reader 0 10000 0 0", "reader 0 -1 -1 0", "reader 0 -1 2 0",
+        "reader 0 -1 0 -1", "reader 0 -1 0 4", "set -1 0 -1", "set 4 0 -1", "set 0 -1 0", "set 0 3 0", "set 0 0 -2",
+            "set 0 0 4", "set 0 0 10000", "set 0 1 -1", "set 0 1 2",
+        "set 0 2 -1", "set 0 2 10000", "paper -1", "paper 5", "move -1 0", "move 3 0", "move 0 -1", "move 0 5", "swap 0 0",
+            "swap 1 1", "swap -1 0", "swap 0 -1", "swap 5 0", "swap 0 5",
+        "fire -1", "fire 5", "read -1 0", "read 3 0", "read 0 -1", "read 0 4", "read 0 2", "read 0 3", "lease -1 0",
+            "lease 3 0", "lease -1 -1", "lease 3 -1", "lease 0 -2",
+        "lease 0 4", "lease 0 2", "lease 0 3", "days 0", "days -1", "days 401", "end -1", "end 21", "claim -1 9 0 0",
+            "claim 3 9 0 0", "claim 0 4 0 0", "claim 0 10000 0 0",
         "claim 0 9 -1 0", "claim 0 9 0 1000", "claim 0 9 1 0"};
-    private static final String[] ASKED = {"fault -1", "fault 2", "age -1 5", "age 3 5", "age 0 4", "age 0 10000", "of -1 0", "of 3 0", "of 0 -1", "of 0 8", "who -1 0", "who 4 0", "who 0 -1",
-        "who 0 8", "book -1 0", "book 3 0", "book 0 -1", "book 0 5", "fewest -1", "fewest 1", "fewest 9", "fewest 22", "thumbs -1 0 0", "thumbs 3 0 0", "thumbs 0 -1 0", "thumbs 0 1000 0",
-        "thumbs 0 0 -1", "thumbs 0 0 3", "leaps -1 0 0", "leaps 4 0 0", "leaps 0 -1 0", "leaps 0 1000 0", "leaps 0 0 -1", "leaps 0 0 2", "mean -1", "mean 5", "mean 2", "look -1", "look 9"};
+    private static final String[] ASKED = {"fault -1", "fault 2", "age -1 5", "age 3 5", "age 0 4", "age 0 10000",
+        "of -1 0", "of 3 0", "of 0 -1", "of 0 8", "who -1 0", "who 4 0", "who 0 -1",
+        "who 0 8", "book -1 0", "book 3 0", "book 0 -1", "book 0 5", "fewest -1", "fewest 1", "fewest 9", "fewest 22",
+            "thumbs -1 0 0", "thumbs 3 0 0", "thumbs 0 -1 0", "thumbs 0 1000 0",
+        "thumbs 0 0 -1", "thumbs 0 0 3", "leaps -1 0 0", "leaps 4 0 0", "leaps 0 -1 0", "leaps 0 1000 0", "leaps 0 0 -1",
+            "leaps 0 0 2", "mean -1", "mean 5", "mean 2", "look -1", "look 9"};
 
     private static boolean answersByBoolean(String name) {
         return List.of("set", "move", "swap", "lease", "end", "undo", "image").contains(name);
@@ -165,12 +185,15 @@ public final class ReturnBoundsTest {
     }
 
     private static void refusedForgetsNothing() {
-        for (String c : REFUSED) busy().due(refusal(name(c)), name(c), numbers(c)).due(2, "look", 7).due(1, "undo").due(1, "undo").due(0, "undo");
-        for (String c : ASKED) busy().due(refusal(name(c)), name(c), numbers(c)).due(2, "look", 7).due(1, "undo").due(1, "undo").due(0, "undo");
+        for (String c : REFUSED) busy().due(refusal(name(c)), name(c), numbers(c)).due(2, "look", 7).due(1, "undo")
+            .due(1, "undo").due(0, "undo");
+        for (String c : ASKED) busy().due(refusal(name(c)), name(c), numbers(c)).due(2, "look", 7).due(1, "undo")
+            .due(1, "undo").due(0, "undo");
         // An image that is not there.
         Desk d = new Desk().papers(0).aged(9, 0).due(9, "read", 0, 0).due(0, "image", 0).due(1, "look", 7).due(1, "undo");
         // Days that would go beyond the last one; a thirteenth reader and paper; a seventh claim.
-        d = new Desk().at(9999).papers(0).aged(9, 0).due(9, "read", 0, 0).due(NONE, "days", 1).due(1, "look", 7).due(1, "undo");
+        d = new Desk().at(9999).papers(0).aged(9, 0).due(9, "read", 0, 0).due(NONE, "days", 1).due(1, "look", 7)
+            .due(1, "undo");
         d = new Desk();
         for (int i = 0; i < 12; i++) d.papers(0).aged(9, 0);
         d.due(9, "read", 0, 0).due(NONE, "paper", 0).due(NONE, "reader", 0, NONE, 0, 0).due(1, "look", 7).due(1, "undo");
@@ -192,7 +215,8 @@ public final class ReturnBoundsTest {
     }
 
     private static void fullTakesNothing() {
-        for (String c : new String[] {"reader 50 40 1 3", "paper 4", "claim 0 9 0 0", "reader 0 -2 0 0", "paper 5", "claim 0 9 1 0"}) {
+        for (String c : new String[] {"reader 50 40 1 3", "paper 4", "claim 0 9 0 0", "reader 0 -2 0 0", "paper 5",
+            "claim 0 9 1 0"}) {
             Desk d = busy();
             for (int i = 0; i < 8; i++) d.aged(9, 0);
             for (int i = 0; i < 9; i++) d.papers(0);
@@ -206,11 +230,13 @@ public final class ReturnBoundsTest {
         }
         // A tape that has no room keeps what it has.
         Desk d = new Desk().papers(0).law("age 3;");
-        d.put("age 4;" + " ".repeat(375)).due(NONE, "feed", 0x78787878, 0, 0, 0, 0).due(0, "end", 382).due(1, "end", 381).due(1, "text").due(4, "age", 0, 0);
+        d.put("age 4;" + " ".repeat(375)).due(NONE, "feed", 0x78787878, 0, 0, 0, 0).due(0, "end", 382).due(1, "end", 381)
+            .due(1, "text").due(4, "age", 0, 0);
     }
 
     private static void noImage() {
-        Desk d = new Desk().due(0, "image", 0).papers(0).due(0, "image", 0).due(1, "look", 2).due(1, "image", 1).due(1, "image", 0).due(1, "look", 2);
+        Desk d = new Desk().due(0, "image", 0).papers(0).due(0, "image", 0).due(1, "look", 2).due(1, "image", 1)
+            .due(1, "image", 0).due(1, "look", 2);
     }
 
     private static void allGoesBack() {
@@ -218,7 +244,8 @@ public final class ReturnBoundsTest {
         d.due(1, "image", 1);
         List<Integer> before = d.all();
         before.set(7, 0);
-        String[] changes = {"set 0 0 900", "set 0 1 1", "set 0 2 9999", "set 1 1 1", "reader 0 -1 0 1", "paper 3", "move 0 4", "swap 0 1", "read 0 0", "read 1 1", "read 3 0", "lease 0 0",
+        String[] changes = {"set 0 0 900", "set 0 1 1", "set 0 2 9999", "set 1 1 1", "reader 0 -1 0 1", "paper 3",
+            "move 0 4", "swap 0 1", "read 0 0", "read 1 1", "read 3 0", "lease 0 0",
             "lease 1 -1", "fire 4", "claim 2 99 0 0", "claim 2 99 1 1", "state -1", "days 40", "fire 1"};
         for (String c : changes) d.call(name(c), numbers(c));
         d.law("age 1;").due(1, "look", 8).due(5, "look", 1).due(4, "look", 2).fault(2, 6, "age 1/0;");
@@ -228,7 +255,8 @@ public final class ReturnBoundsTest {
         // The claims are those that were: paper 1 by reader 0 alone, and paper 0 as it stands.
         d.due(1, "fewest", 0).due(0, "fewest", 11).due(NONE, "fewest", 10);
         // From it all goes on: numbers, lines, draws.
-        d.due(4, "reader", 1, 2, 0, 0).due(0, "who", 4, 4).due(3, "paper", 2).due(0, "of", 3, 4).due(NONE, "of", 3, 2).due(NONE, "of", 3, 6).due(5, "of", 3, 5).due(2, "claim", 0, 9, 0, 9);
+        d.due(4, "reader", 1, 2, 0, 0).due(0, "who", 4, 4).due(3, "paper", 2).due(0, "of", 3, 4).due(NONE, "of", 3, 2)
+            .due(NONE, "of", 3, 6).due(5, "of", 3, 5).due(2, "claim", 0, 9, 0, 9);
         d.due(20, "read", 0, 0).due(4, "look", 3).due(0, "book", 3, 0);
     }
 
@@ -240,45 +268,57 @@ public final class ReturnBoundsTest {
             d.due(1, "image", 1);
             for (int i = 0; i < undone; i++) d.due(1, "undo");
             for (int i = 0; i < undone; i++) d.due(8, "read", 1, 1);
-            d.due(lines, "look", 3).due(1, "book", lines - 1, 1).due(undone, "leaps", 1, 0, 0).due(1, "image", 0).due(lines, "look", 3);
-            for (int i = lines - undone; i < lines; i++) d.due(0, "book", i, 0).due(0, "book", i, 1).due(i == 0 ? 0 : 9, "book", i, 3).due(9, "book", i, 4);
+            d.due(lines, "look", 3).due(1, "book", lines - 1, 1).due(undone, "leaps", 1, 0, 0).due(1, "image", 0)
+                .due(lines, "look", 3);
+            for (int i = lines - undone; i < lines; i++) d.due(0, "book", i, 0).due(0, "book", i, 1)
+                .due(i == 0 ? 0 : 9, "book", i, 3).due(9, "book", i, 4);
             d.due(0, "leaps", 1, 0, 0).due(lines, "leaps", 0, 0, 0).due(lines, "of", 0, 4).due(0, "of", 1, 4);
         }
     }
 
     private static void tapeAndFaultStay() {
-        Desk d = new Desk().papers(0).put("age 5;").due(1, "image", 1).put("age 6;").due(1, "image", 0).due(0, "end", 7).due(1, "end", 6).due(1, "text").due(6, "age", 0, 0);
-        d.due(1, "image", 0).due(0, "look", 6).due(0, "end", 1).fault(2, 6, "age 1/0;").due(1, "image", 0).due(2, "fault", 0).due(6, "fault", 1);
+        Desk d = new Desk().papers(0).put("age 5;").due(1, "image", 1).put("age 6;").due(1, "image", 0).due(0, "end", 7)
+            .due(1, "end", 6).due(1, "text").due(6, "age", 0, 0);
+        d.due(1, "image", 0).due(0, "look", 6).due(0, "end", 1).fault(2, 6, "age 1/0;").due(1, "image", 0).due(2, "fault", 0)
+            .due(6, "fault", 1);
         d.due(1, "image", 1).law("age 6;").due(1, "image", 0).due(0, "fault", 0).due(NONE, "fault", 1).due(0, "look", 6);
     }
 
     private static void nothingUndoneThen() {
-        Desk d = new Desk().papers(0).aged(9, 0).due(9, "read", 0, 0).due(9, "read", 0, 0).due(1, "image", 1).due(2, "look", 7).due(1, "undo").due(1, "image", 0);
-        d.due(0, "look", 7).due(0, "undo").due(2, "of", 0, 4).due(2, "look", 3).due(9, "read", 0, 0).due(1, "look", 7).due(1, "image", 0).due(0, "look", 7).due(0, "undo").due(2, "of", 0, 4);
+        Desk d = new Desk().papers(0).aged(9, 0).due(9, "read", 0, 0).due(9, "read", 0, 0).due(1, "image", 1)
+            .due(2, "look", 7).due(1, "undo").due(1, "image", 0);
+        d.due(0, "look", 7).due(0, "undo").due(2, "of", 0, 4).due(2, "look", 3).due(9, "read", 0, 0).due(1, "look", 7)
+            .due(1, "image", 0).due(0, "look", 7).due(0, "undo").due(2, "of", 0, 4);
     }
 
     private static void moreThanOnce() {
         Desk d = new Desk().papers(0).aged(9, 0).at(3);
         d.due(1, "image", 1);
         for (int i = 0; i < 20; i++) {
-            d.due(9, "read", 0, 0).due(1, "move", 0, 1 + i % 4).due(0, "days", 1 + i).papers(2).due(2, "look", 2).due(1, "image", 0);
+            d.due(9, "read", 0, 0).due(1, "move", 0, 1 + i % 4).due(0, "days", 1 + i).papers(2).due(2, "look", 2)
+                .due(1, "image", 0);
             d.due(3, "look", 0).due(1, "look", 2).due(0, "of", 0, 0).due(0, "of", 0, 4).due(0, "look", 3);
         }
     }
 
     private static void latestImage() {
-        Desk d = new Desk().due(1, "image", 1).at(2).due(1, "image", 1).at(5).due(1, "image", 0).due(2, "look", 0).at(9).due(1, "image", 0).due(2, "look", 0).due(1, "image", 1);
+        Desk d = new Desk().due(1, "image", 1).at(2).due(1, "image", 1).at(5).due(1, "image", 0).due(2, "look", 0).at(9)
+            .due(1, "image", 0).due(2, "look", 0).due(1, "image", 1);
         d.at(4).due(1, "image", 0).due(2, "look", 0);
         // What is done behind it does not change the image, nor does an undone reading.
-        d.papers(0).aged(9, 0).due(9, "read", 0, 0).due(1, "image", 1).due(1, "undo").due(0, "of", 0, 4).due(1, "image", 0).due(1, "of", 0, 4).due(1, "look", 3);
+        d.papers(0).aged(9, 0).due(9, "read", 0, 0).due(1, "image", 1).due(1, "undo").due(0, "of", 0, 4).due(1, "image", 0)
+            .due(1, "of", 0, 4).due(1, "look", 3);
     }
 
     private static void emptyAndFull() {
         Desk d = new Desk().due(1, "image", 1);
-        d.papers(0, 1).aged(9, 1).law("age 5;").due(1, "set", 0, 2, 7).due(1, "lease", 1, 0).due(5, "read", 1, 0).due(0, "claim", 0, 0, 0, 0).due(1, "image", 0);
+        d.papers(0, 1).aged(9, 1).law("age 5;").due(1, "set", 0, 2, 7).due(1, "lease", 1, 0).due(5, "read", 1, 0)
+            .due(0, "claim", 0, 0, 0, 0).due(1, "image", 0);
         for (int what = 0; what <= 8; what++) d.due(0, "look", what);
-        d.due(NONE - 1, "of", 0, 0).due(NONE - 99999, "who", 0, 0).due(NONE, "book", 0, 0).due(0, "fewest", 0).due(NONE, "next").due(NONE, "close");
-        d.papers(2, 3).due(NONE, "of", 1, 6).due(NONE, "of", 1, 2).due(0, "of", 1, 4).aged(8, 0).due(0, "who", 0, 4).due(0, "age", 1, 0);
+        d.due(NONE - 1, "of", 0, 0).due(NONE - 99999, "who", 0, 0).due(NONE, "book", 0, 0).due(0, "fewest", 0)
+            .due(NONE, "next").due(NONE, "close");
+        d.papers(2, 3).due(NONE, "of", 1, 6).due(NONE, "of", 1, 2).due(0, "of", 1, 4).aged(8, 0).due(0, "who", 0, 4)
+            .due(0, "age", 1, 0);
         // All that there may be.
         d = new Desk();
         for (int i = 0; i < 12; i++) d.papers(i % 5).aged(i + 1, i % 4).due(1, "lease", i, i).due(1, "set", i, 2, i);
@@ -287,11 +327,13 @@ public final class ReturnBoundsTest {
         for (int i = 0; i < 16; i++) law += "age 1 when paper = " + (i + 1) % 16 + ";";
         d.law(16, law);
         for (int i = 0; i < 120; i++) d.call("read", i % 12, (i + 5) % 12);
-        d.due(1, "image", 1).law("age 7;").due(1, "swap", 0, 1).due(3, "fire", 1).due(1, "lease", 11, NONE).due(0, "days", 1).due(1, "image", 0);
+        d.due(1, "image", 1).law("age 7;").due(1, "swap", 0, 1).due(3, "fire", 1).due(1, "lease", 11, NONE).due(0, "days", 1)
+            .due(1, "image", 0);
         int[] looks = {0, 12, 12, 120, 6, 0, 16, 0, 0};
         for (int what = 0; what <= 8; what++) d.due(looks[what], "look", what);
         for (int i = 0; i < 12; i++) {
-            d.due(i % 5, "of", i, 0).due((i + 5) % 12, "of", i, 2).due(10, "of", i, 4).due(i, "of", i, 6).due(i, "who", i, 4).due(i % 4, "who", i, 3).due(1, "age", i, 0);
+            d.due(i % 5, "of", i, 0).due((i + 5) % 12, "of", i, 2).due(10, "of", i, 4).due(i, "of", i, 6).due(i, "who", i, 4)
+                .due(i % 4, "who", i, 3).due(1, "age", i, 0);
         }
         d.due(11, "book", 119, 0).due(4, "book", 119, 1);
     }

@@ -9,11 +9,15 @@ import java.util.Random;
  * thrown, and each answer must be that of Model.
  */
 public final class WildTest {
-    private static final int[] NUMBERS = {Integer.MIN_VALUE, Integer.MIN_VALUE + 1, -100000, -36501, -36500, -400, -100, -3, -2, -1, 0, 1, 2, 3, 4, 5, 6, 7, 8,
-        9, 10, 11, 12, 13, 20, 21, 22, 98, 99, 100, 119, 120, 121, 380, 399, 400, 401, 998, 999, 1000, 9998, 9999, 10000, 10001, 65535, 65536,
+    private static final int[] NUMBERS = {Integer.MIN_VALUE, Integer.MIN_VALUE + 1, -100000, -36501, -36500, -400, -100, -3,
+        -2, -1, 0, 1, 2, 3, 4, 5, 6, 7, 8,
+        9, 10, 11, 12, 13, 20, 21, 22, 98, 99, 100, 119, 120, 121, 380, 399, 400, 401, 998, 999, 1000, 9998, 9999, 10000,
+            10001, 65535, 65536,
         Integer.MAX_VALUE - 400, Integer.MAX_VALUE - 1, Integer.MAX_VALUE};
-    private static final String[] FACE = {"state 1", "reader 4", "set 3", "paper 1", "move 2", "swap 2", "fire 1", "read 2", "lease 2", "days 1", "feed 5", "end 1", "text 0", "fault 1",
-        "age 2", "of 2", "who 2", "book 2", "claim 4", "fewest 1", "thumbs 3", "leaps 3", "next 0", "close 0", "mean 1", "undo 0", "look 1"};
+    private static final String[] FACE = {"state 1", "reader 4", "set 3", "paper 1", "move 2", "swap 2", "fire 1", "read 2",
+        "lease 2", "days 1", "feed 5", "end 1", "text 0", "fault 1",
+        "age 2", "of 2", "who 2", "book 2", "claim 4", "fewest 1", "thumbs 3", "leaps 3", "next 0", "close 0", "mean 1",
+            "undo 0", "look 1"};
     private static final int MOST_CALLS = 512;
     private static final int LONGER = 1500;
 
@@ -55,7 +59,8 @@ public final class WildTest {
         }
         for (int i = 0; i < LONGER && count > 2; i++) {
             int[] n = new int[count];
-            for (int k = 0; k < count; k++) n[k] = random.nextInt(3) > 0 ? random.nextInt(4) - 1 : NUMBERS[random.nextInt(NUMBERS.length)];
+            for (int k = 0; k < count; k++) n[k] = random.nextInt(3) > 0 ? random.nextInt(4) - 1
+                : NUMBERS[random.nextInt(NUMBERS.length)];
             list.add(n);
         }
         return list;
@@ -76,7 +81,8 @@ public final class WildTest {
         for (int i = 0; i < many * 11; i++) call("read", i % many, i / 11);
         for (int i = 0; i < many / 2; i++) call("claim", i, 9999, 20 * i, 900);
         for (int i = 0; i < many; i++) call("lease", i, i);
-        if (archive > 1) for (int i = 0; i < 20; i++) call("feed", 0x20202020, 0x20202020, 0x20202020, 0x20202020, 0x20202020);
+        if (archive > 1) for (int i = 0; i < 20; i++) call("feed", 0x20202020, 0x20202020, 0x20202020, 0x20202020,
+            0x20202020);
     }
 
     private void call(String name, int... a) {
